@@ -768,10 +768,7 @@ public final class MarginWays {
         final int[] met = new int[MOST_PEOPLE];
 
         State() {
-            for (int who = 0; who < MOST_PEOPLE; who++) {
-                at[who] = NONE;
-                sent[who] = NONE;
-            }
+            empty();
         }
 
         void empty() {
@@ -1319,7 +1316,7 @@ public final class MarginWays {
                 return;
             }
             if (kind == WORD) {
-                readValue();
+                readValue(wordOf(values));
             } else if (kind == '(') {
                 advance();
                 readExpr(within + 1);
@@ -1332,8 +1329,7 @@ public final class MarginWays {
             }
         }
 
-        private void readValue() {
-            int which = wordOf(values);
+        private void readValue(int which) {
             if (which == NONE) {
                 refuse(NOT_THERE);
             } else {

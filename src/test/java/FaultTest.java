@@ -142,6 +142,8 @@ public final class FaultTest {
         at("fades |far;", 3);
         at("fades |met;", 3);
         at("fades 1*|x;", 3);
+        at("fades 1*|z;", 3);
+        at("fades |az;", 3);
     }
 
     private static void twice() {
