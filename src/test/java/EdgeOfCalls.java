@@ -12,20 +12,16 @@ final class EdgeOfCalls {
 
     /** A call with one argument that is wrong. */
     private interface With {
-        long run(int argument);
+        long run(MarginWays x, int argument);
     }
 
     private final Edges edges;
-    private final MarginWays x = Check.told(BASE);
 
     EdgeOfCalls(Edges edges) {
         this.edges = edges;
     }
 
     void all() {
-        x.days(1);
-        x.see(0, 1, 1);
-        x.image();
         count();
         deed();
         person();
@@ -48,15 +44,24 @@ final class EdgeOfCalls {
         questionsChangeNothing();
     }
 
+    /** The cellar that most calls are asked about, in which something has been done already. */
+    private static MarginWays made() {
+        MarginWays x = Check.told(BASE);
+        x.days(1);
+        x.see(0, 1, 1);
+        x.image();
+        return x;
+    }
+
     private void noSuch(String call, int[] wrong, With with) {
         for (int argument : wrong) {
-            edges.noSuch(call + " of " + argument, x, () -> with.run(argument));
+            edges.noSuch(call + " of " + argument, EdgeOfCalls::made, x -> with.run(x, argument));
         }
     }
 
     private void illegal(String call, int[] wrong, With with) {
         for (int argument : wrong) {
-            edges.illegal(call + " of " + argument, x, () -> with.run(argument));
+            edges.illegal(call + " of " + argument, EdgeOfCalls::made, x -> with.run(x, argument));
         }
     }
 
@@ -92,9 +97,8 @@ final class EdgeOfCalls {
         MarginWays six = Check.told("deed 0;" + "person 0 0 0 to 0 0;".repeat(6));
         edges.same("all six are sent", six.count(6), 63);
         edges.says("NoSuchElementException: another what.");
-        noSuch("count", from(14), x::count);
-        MarginWays none = new MarginWays();
-        edges.noSuch("count(14) of a new one", none, () -> none.count(14));
+        noSuch("count", from(14), MarginWays::count);
+        edges.noSuch("count(14) of a new one", MarginWays::new, x -> x.count(14));
     }
 
     private void deed() {
@@ -111,14 +115,14 @@ final class EdgeOfCalls {
         edges.says("NoSuchElementException: no such DEED (as everywhere), what.");
         for (int what = 0; what < 5; what++) {
             int w = what;
-            noSuch("deed", NO_DEED, deed -> x.deed(deed, w));
+            noSuch("deed", NO_DEED, (x, deed) -> x.deed(deed, w));
         }
-        noSuch("what", from(5), what -> x.deed(0, what));
-        noSuch("reached: no deed", NO_DEED, deed -> x.reached(0, deed));
-        noSuch("see: no deed", NO_DEED, deed -> x.see(0, deed, 0));
+        noSuch("what", from(5), (x, what) -> x.deed(0, what));
+        noSuch("reached: no deed", NO_DEED, (x, deed) -> x.reached(0, deed));
+        noSuch("see: no deed", NO_DEED, (x, deed) -> x.see(0, deed, 0));
         MarginWays full = Check.told("deed 0;".repeat(6));
         edges.same("the sixth", full.deed(5, 0), 1);
-        edges.noSuch("no seventh", full, () -> full.deed(6, 0));
+        edges.noSuch("no seventh", () -> full, x -> x.deed(6, 0));
     }
 
     private void person() {
@@ -139,53 +143,54 @@ final class EdgeOfCalls {
         edges.says("NoSuchElementException: no such PERSON (as everywhere), what.");
         for (int what = 0; what < 6; what++) {
             int w = what;
-            noSuch("person", NO_PERSON, who -> x.person(who, w));
+            noSuch("person", NO_PERSON, (x, who) -> x.person(who, w));
         }
-        noSuch("what", from(6), what -> x.person(0, what));
-        noSuch("send: nobody", NO_PERSON, who -> x.send(who, 0));
-        noSuch("let: nobody", NO_PERSON, who -> x.let(who, 0));
-        noSuch("errand: nobody", NO_PERSON, x::errand);
-        noSuch("near: nobody", NO_PERSON, x::near);
-        noSuch("see: nobody", NO_PERSON, who -> x.see(who, 0, 0));
+        noSuch("what", from(6), (x, what) -> x.person(0, what));
+        noSuch("send: nobody", NO_PERSON, (x, who) -> x.send(who, 0));
+        noSuch("let: nobody", NO_PERSON, (x, who) -> x.let(who, 0));
+        noSuch("errand: nobody", NO_PERSON, MarginWays::errand);
+        noSuch("near: nobody", NO_PERSON, MarginWays::near);
+        noSuch("see: nobody", NO_PERSON, (x, who) -> x.see(who, 0, 0));
         MarginWays six = Check.told("deed 0;" + "person 0 0 7;".repeat(6));
         edges.same("the sixth", six.person(5, 1), 7);
-        edges.noSuch("no seventh", six, () -> six.person(6, 1));
+        edges.noSuch("no seventh", () -> six, x -> x.person(6, 1));
     }
 
     private void ink() {
         edges.promise(8);
         edges.says("INK of a PLACE (10 by the DEED, and PLACE).");
-        MarginWays full = Check.told("deed 0 1 2 3 4 5 6 7;deed 1 2 3 4 5 6 7 8;deed 2 3 4 5 6 7 8 9;deed 9 8 7 6 5 4 3 2;"
-            + "deed 8 7 6 5 4 3 2 1;deed 7 6 5 4 3 2 1 0;");
+        String text = "deed 0 1 2 3 4 5 6 7;deed 1 2 3 4 5 6 7 8;deed 2 3 4 5 6 7 8 9;deed 9 8 7 6 5 4 3 2;"
+            + "deed 8 7 6 5 4 3 2 1;deed 7 6 5 4 3 2 1 0;";
+        MarginWays full = Check.told(text);
         for (int place = 0; place < 8; place++) {
             for (int deed = 0; deed < 6; deed++) {
                 edges.same("ink of " + deed + ", " + place, full.ink(10 * deed + place), deed < 3 ? deed + place : 12 - deed - place);
             }
         }
         edges.says("NoSuchElementException: no such PLACE (as everywhere).");
-        noSuch("ink", NO_PLACE, x::ink);
-        noSuch("type", NO_PLACE, place -> x.type(place, 0));
-        noSuch("stile", NO_PLACE, place -> x.stile(place, true) ? 1 : 0);
-        noSuch("stile taken", NO_PLACE, place -> x.stile(place, false) ? 1 : 0);
-        noSuch("let", NO_PLACE, place -> x.let(0, place));
+        noSuch("ink", NO_PLACE, MarginWays::ink);
+        noSuch("type", NO_PLACE, (x, place) -> x.type(place, 0));
+        noSuch("stile", NO_PLACE, (x, place) -> x.stile(place, true) ? 1 : 0);
+        noSuch("stile taken", NO_PLACE, (x, place) -> x.stile(place, false) ? 1 : 0);
+        noSuch("let", NO_PLACE, (x, place) -> x.let(0, place));
         for (int place : NO_PLACE) {
             if (place != NONE) {
-                edges.noSuch("send of " + place, x, () -> x.send(0, place));
+                edges.noSuch("send of " + place, EdgeOfCalls::made, x -> x.send(0, place));
             }
         }
         for (int place : new int[] {8, 9, 18, 49, 58, 59, 60, 80}) {
-            edges.noSuch("no ninth place, no seventh deed: " + place, full, () -> full.ink(place));
+            edges.noSuch("no ninth place, no seventh deed: " + place, () -> Check.told(text), x -> x.ink(place));
         }
-        MarginWays none = new MarginWays();
-        edges.noSuch("no place at all", none, () -> none.ink(0));
+        edges.noSuch("no place at all", MarginWays::new, x -> x.ink(0));
         int[] sizes = {1, 1, 8, 1, 3, 8};
-        MarginWays y = Check.told("deed 0;deed 0;deed 0 0 0 0 0 0 0 0;deed 0;deed 0 0 0;deed 0 0 0 0 0 0 0 0;");
+        String unlike = "deed 0;deed 0;deed 0 0 0 0 0 0 0 0;deed 0;deed 0 0 0;deed 0 0 0 0 0 0 0 0;";
+        MarginWays y = Check.told(unlike);
         for (int i = 0; i < 80; i++) {
             int place = i;
             if (i / 10 < 6 && i % 10 < sizes[i / 10]) {
                 edges.same("there is " + i, y.ink(i), 0);
             } else {
-                edges.noSuch("there isn't " + i, y, () -> y.ink(place));
+                edges.noSuch("there isn't " + i, () -> Check.told(unlike), x -> x.ink(place));
             }
         }
     }
@@ -235,32 +240,32 @@ final class EdgeOfCalls {
             }
         }
         edges.says("NoSuchElementException: also another what.");
-        noSuch("person", NO_PERSON, who -> x.then(who, 0, 0));
-        noSuch("what", from(4), what -> x.then(0, 0, what));
+        noSuch("person", NO_PERSON, (x, who) -> x.then(who, 0, 0));
+        noSuch("what", from(4), (x, what) -> x.then(0, 0, what));
         edges.says("IllegalArgumentException (behind that): not 0 to 60.");
-        illegal("days", NO_DAYS, days -> x.then(0, days, 3));
-        noSuch("person ahead of days", NO_PERSON, who -> x.then(who, 61, 0));
-        noSuch("what ahead of days", from(4), what -> x.then(0, -1, what));
-        edges.same("60", x.then(0, 60, 0), 1);
+        illegal("days", NO_DAYS, (x, days) -> x.then(0, days, 3));
+        noSuch("person ahead of days", NO_PERSON, (x, who) -> x.then(who, 61, 0));
+        noSuch("what ahead of days", from(4), (x, what) -> x.then(0, -1, what));
+        edges.same("60", made().then(0, 60, 0), 1);
     }
 
     private void comesAndMeet() {
         edges.promise(16);
         edges.says("COMES; NONE: none, one isn't SENT.");
         edges.same("comes", Check.told(BASE).comes(0), 2);
-        edges.same("one isn't sent", x.comes(2), NONE);
+        edges.same("one isn't sent", made().comes(2), NONE);
         edges.same("none", Check.told("deed 0;deed 0;person 0 0 9 to 1 0;").comes(0), NONE);
-        noSuch("person", NO_PERSON, x::comes);
+        noSuch("person", NO_PERSON, MarginWays::comes);
         edges.promise(17);
         edges.says("MEET; NONE: none, both are one.");
         edges.same("meet", Check.told(BASE).meet(2, 0), 2);
-        edges.same("none", x.meet(0, 1), NONE);
+        edges.same("none", made().meet(0, 1), NONE);
         for (int who = 0; who < 3; who++) {
-            edges.same("both are one", x.meet(who, who), NONE);
+            edges.same("both are one", made().meet(who, who), NONE);
         }
-        noSuch("person", NO_PERSON, who -> x.meet(who, 0));
-        noSuch("other", NO_PERSON, who -> x.meet(0, who));
-        noSuch("both", NO_PERSON, who -> x.meet(who, who));
+        noSuch("person", NO_PERSON, (x, who) -> x.meet(who, 0));
+        noSuch("other", NO_PERSON, (x, who) -> x.meet(0, who));
+        noSuch("both", NO_PERSON, (x, who) -> x.meet(who, who));
     }
 
     private void later() {
@@ -275,23 +280,23 @@ final class EdgeOfCalls {
         edges.same("nobody: none", nobody.later(60, 1), NONE);
         edges.same("inked all the same", nobody.later(0, 2), 1);
         edges.says("NoSuchElementException: another what.");
-        noSuch("what", from(3), what -> x.later(0, what));
+        noSuch("what", from(3), (x, what) -> x.later(0, what));
         edges.says("IllegalArgumentException (behind that): not 0 to 60.");
         for (int what = 0; what < 3; what++) {
             int w = what;
-            illegal("days", NO_DAYS, days -> x.later(days, w));
+            illegal("days", NO_DAYS, (x, days) -> x.later(days, w));
         }
-        noSuch("what ahead of days", from(3), what -> x.later(61, what));
-        edges.same("60", x.later(60, 2), 0);
+        noSuch("what ahead of days", from(3), (x, what) -> x.later(61, what));
+        edges.same("60", made().later(60, 2), 0);
     }
 
     private void clear() {
         edges.promise(19);
         edges.says("CLEAR; NONE: none.");
-        edges.same("now", x.clear(0), 0);
-        edges.same("behind 14 more", x.clear(3), 14);
+        edges.same("now", made().clear(0), 0);
+        edges.same("behind 14 more", made().clear(3), 14);
         edges.same("none", Check.told("deed 1;fades 0;").clear(0), NONE);
-        noSuch("place", NO_PLACE, x::clear);
+        noSuch("place", NO_PLACE, MarginWays::clear);
     }
 
     private void way() {
@@ -301,39 +306,39 @@ final class EdgeOfCalls {
             {3, 4, 1, 4, 0, 0}, {4, 3, NONE, NONE, 1, 0}, {21, 0, NONE, NONE, 1, 0}, {11, 20, 2, 10, 0, 1}};
         for (int[] row : due) {
             for (int what = 0; what < 4; what++) {
-                edges.same("way(" + row[0] + ", " + row[1] + ", " + what + ")", x.way(row[0], row[1], what), row[2 + what]);
+                edges.same("way(" + row[0] + ", " + row[1] + ", " + what + ")", made().way(row[0], row[1], what), row[2 + what]);
             }
         }
         edges.same("none by any", Check.told("deed 0;deed 0;").way(0, 10, 2), NONE);
         edges.says("NoSuchElementException: also another what.");
-        noSuch("what", from(4), what -> x.way(0, 0, what));
+        noSuch("what", from(4), (x, what) -> x.way(0, 0, what));
         for (int what = 0; what < 4; what++) {
             int w = what;
-            noSuch("from no place", NO_PLACE, place -> x.way(place, 0, w));
-            noSuch("to no place", NO_PLACE, place -> x.way(0, place, w));
-            noSuch("neither", NO_PLACE, place -> x.way(place, place, w));
+            noSuch("from no place", NO_PLACE, (x, place) -> x.way(place, 0, w));
+            noSuch("to no place", NO_PLACE, (x, place) -> x.way(0, place, w));
+            noSuch("neither", NO_PLACE, (x, place) -> x.way(place, place, w));
         }
     }
 
     private void reachedAndFarthest() {
         edges.promise(21);
         edges.says("REACHED, as bits.");
-        edges.same("deed 0", x.reached(0, 0), 7);
-        edges.same("deed 1", x.reached(0, 1), 12);
-        edges.same("deed 2", x.reached(0, 2), 0);
-        noSuch("place", NO_PLACE, place -> x.reached(place, 0));
-        noSuch("deed", NO_DEED, deed -> x.reached(0, deed));
+        edges.same("deed 0", made().reached(0, 0), 7);
+        edges.same("deed 1", made().reached(0, 1), 12);
+        edges.same("deed 2", made().reached(0, 2), 0);
+        noSuch("place", NO_PLACE, (x, place) -> x.reached(place, 0));
+        noSuch("deed", NO_DEED, (x, deed) -> x.reached(0, deed));
         edges.promise(22);
         edges.says("FARTHEST: which (what 0; itself, if there is none else), how far (1).");
-        edges.same("which", x.farthest(0, 0), 13);
-        edges.same("how far", x.farthest(0, 1), 4);
-        edges.same("itself", x.farthest(4, 0), 4);
-        edges.same("itself", x.farthest(4, 1), 0);
+        edges.same("which", made().farthest(0, 0), 13);
+        edges.same("how far", made().farthest(0, 1), 4);
+        edges.same("itself", made().farthest(4, 0), 4);
+        edges.same("itself", made().farthest(4, 1), 0);
         edges.same("itself with ink all about", Check.told("deed 2 2 2;").farthest(1, 0), 1);
         edges.says("NoSuchElementException: also another what.");
-        noSuch("what", from(2), what -> x.farthest(0, what));
-        noSuch("place", NO_PLACE, place -> x.farthest(place, 0));
-        noSuch("place", NO_PLACE, place -> x.farthest(place, 1));
+        noSuch("what", from(2), (x, what) -> x.farthest(0, what));
+        noSuch("place", NO_PLACE, (x, place) -> x.farthest(place, 0));
+        noSuch("place", NO_PLACE, (x, place) -> x.farthest(place, 1));
     }
 
     private void gather() {
@@ -344,26 +349,25 @@ final class EdgeOfCalls {
         edges.same("nobody", Check.told("deed 0;").gather(0), NONE);
         edges.same("nobody", Check.told("deed 0;").gather(1), NONE);
         edges.says("NoSuchElementException: another what.");
-        noSuch("what", from(2), x::gather);
-        MarginWays none = new MarginWays();
-        edges.noSuch("without people, too", none, () -> none.gather(2));
+        noSuch("what", from(2), MarginWays::gather);
+        edges.noSuch("without people, too", MarginWays::new, x -> x.gather(2));
     }
 
     private void errands() {
         edges.promise(24);
         edges.says("WHO GOES: how many (what 0), how far (1).");
-        edges.same("how many", x.errands(0), 1);
-        edges.same("how far", x.errands(1), 0);
+        edges.same("how many", made().errands(0), 1);
+        edges.same("how far", made().errands(1), 0);
         edges.same("none", Check.told("deed 0;person 0 0 0;").errands(0), 0);
         edges.same("none", Check.told("deed 0;person 0 0 0;").errands(1), 0);
         edges.says("NoSuchElementException: another what.");
-        noSuch("what", from(2), x::errands);
+        noSuch("what", from(2), MarginWays::errands);
         edges.promise(25);
         edges.says("WHO GOES: whose errand one takes; NONE: none.");
-        edges.same("none", x.errand(0), NONE);
-        edges.same("none", x.errand(1), NONE);
-        edges.same("the first one's", x.errand(2), 0);
-        noSuch("person", NO_PERSON, x::errand);
+        edges.same("none", made().errand(0), NONE);
+        edges.same("none", made().errand(1), NONE);
+        edges.same("the first one's", made().errand(2), 0);
+        noSuch("person", NO_PERSON, MarginWays::errand);
     }
 
     private void quickAndLook() {
@@ -378,7 +382,7 @@ final class EdgeOfCalls {
         edges.same("none", y.quick(0), 0);
         edges.same("none", y.quick(1), NONE);
         edges.says("NoSuchElementException: another what.");
-        noSuch("what", from(3), x::quick);
+        noSuch("what", from(3), MarginWays::quick);
         edges.promise(29);
         edges.says("LOOK NEXT (what 0; NONE), how many (1; 0: none).");
         edges.same("none", y.look(0), NONE);
@@ -388,7 +392,7 @@ final class EdgeOfCalls {
         edges.same("all are at one place each: the least", y.look(0), 0);
         edges.same("one", y.look(1), 1);
         edges.says("NoSuchElementException: another what.");
-        noSuch("what", from(2), x::look);
+        noSuch("what", from(2), MarginWays::look);
     }
 
     private void candles() {
@@ -396,11 +400,11 @@ final class EdgeOfCalls {
         edges.says("CANDLES.");
         edges.same("two days of two", Check.told(BASE).candles(0, 2, 5), 25);
         edges.says("IllegalArgumentException (behind NoSuchElementException): days, tenths.");
-        illegal("days", new int[] {0, 6, -1, LEAST, MOST}, days -> x.candles(0, days, 5));
-        illegal("tenths", new int[] {-1, 11, LEAST, MOST}, tenths -> x.candles(0, 5, tenths));
-        illegal("both", new int[] {-1, 11, LEAST, MOST}, both -> x.candles(2, both, both));
-        noSuch("person ahead", NO_PERSON, who -> x.candles(who, 0, 11));
-        noSuch("person", NO_PERSON, who -> x.candles(who, 1, 0));
+        illegal("days", new int[] {0, 6, -1, LEAST, MOST}, (x, days) -> x.candles(0, days, 5));
+        illegal("tenths", new int[] {-1, 11, LEAST, MOST}, (x, tenths) -> x.candles(0, 5, tenths));
+        illegal("both", new int[] {-1, 11, LEAST, MOST}, (x, both) -> x.candles(2, both, both));
+        noSuch("person ahead", NO_PERSON, (x, who) -> x.candles(who, 0, 11));
+        noSuch("person", NO_PERSON, (x, who) -> x.candles(who, 1, 0));
     }
 
     private void game() {
@@ -412,22 +416,22 @@ final class EdgeOfCalls {
         edges.same("none rests: 0", none.game(0, 1, 0), 0);
         edges.same("none rests: none", none.game(0, 1, 1), NONE);
         for (int what = 0; what < 2; what++) {
-            edges.same("one isn't sent", x.game(0, 2, what), NONE);
-            edges.same("one isn't sent", x.game(2, 1, what), NONE);
+            edges.same("one isn't sent", made().game(0, 2, what), NONE);
+            edges.same("one isn't sent", made().game(2, 1, what), NONE);
         }
         edges.says("NoSuchElementException: also another what.");
-        noSuch("what", from(2), what -> x.game(0, 1, what));
-        noSuch("what, though one isn't sent", from(2), what -> x.game(0, 2, what));
-        noSuch("person", NO_PERSON, who -> x.game(who, 0, 0));
-        noSuch("other", NO_PERSON, who -> x.game(0, who, 0));
+        noSuch("what", from(2), (x, what) -> x.game(0, 1, what));
+        noSuch("what, though one isn't sent", from(2), (x, what) -> x.game(0, 2, what));
+        noSuch("person", NO_PERSON, (x, who) -> x.game(who, 0, 0));
+        noSuch("other", NO_PERSON, (x, who) -> x.game(0, who, 0));
         edges.says("IllegalArgumentException (behind that): both are one.");
         for (int who = 0; who < 3; who++) {
             int both = who;
-            edges.illegal("both are " + who + ", sent or not", x, () -> x.game(both, both, 0));
-            edges.illegal("both are " + who + ", sent or not", x, () -> x.game(both, both, 1));
-            edges.noSuch("what ahead", x, () -> x.game(both, both, 2));
+            edges.illegal("both are " + who + ", sent or not", EdgeOfCalls::made, x -> x.game(both, both, 0));
+            edges.illegal("both are " + who + ", sent or not", EdgeOfCalls::made, x -> x.game(both, both, 1));
+            edges.noSuch("what ahead", EdgeOfCalls::made, x -> x.game(both, both, 2));
         }
-        noSuch("both are nobody", NO_PERSON, who -> x.game(who, who, 0));
+        noSuch("both are nobody", NO_PERSON, (x, who) -> x.game(who, who, 0));
     }
 
     private void years() {
@@ -437,13 +441,13 @@ final class EdgeOfCalls {
         edges.same("how many", Check.told(BASE).years(1, 0, 1), 0);
         edges.same("places", Check.told(BASE).years(1, 0, 2), 2);
         edges.says("NoSuchElementException: another what.");
-        noSuch("what", from(3), what -> x.years(0, 0, what));
+        noSuch("what", from(3), (x, what) -> x.years(0, 0, what));
         edges.says("IllegalArgumentException (behind that): n.");
         for (int what = 0; what < 3; what++) {
             int w = what;
-            illegal("n", NO_DAYS, n -> x.years(5, n, w));
+            illegal("n", NO_DAYS, (x, n) -> x.years(5, n, w));
         }
-        noSuch("what ahead of n", from(3), what -> x.years(5, 61, what));
+        noSuch("what ahead of n", from(3), (x, what) -> x.years(5, 61, what));
     }
 
     private void ahead() {
@@ -455,75 +459,88 @@ final class EdgeOfCalls {
         edges.same("thickest", y.ahead(14, 1), 3);
         edges.same("none", y.ahead(15, 1), NONE);
         edges.says("NoSuchElementException: another what.");
-        noSuch("what", from(2), what -> x.ahead(0, what));
+        noSuch("what", from(2), (x, what) -> x.ahead(0, what));
         edges.says("IllegalArgumentException (behind that): not 0 to 60.");
-        illegal("days", NO_DAYS, days -> x.ahead(days, 0));
-        illegal("days", NO_DAYS, days -> x.ahead(days, 1));
-        noSuch("what ahead of days", from(2), what -> x.ahead(61, what));
+        illegal("days", NO_DAYS, (x, days) -> x.ahead(days, 0));
+        illegal("days", NO_DAYS, (x, days) -> x.ahead(days, 1));
+        noSuch("what ahead of days", from(2), (x, what) -> x.ahead(61, what));
     }
 
     private void waysNearGone() {
         edges.promise(34);
         edges.says("SHORTEST WAYS.");
-        edges.same("one", x.ways(0, 13), 1);
-        edges.same("to itself", x.ways(3, 3), 1);
-        edges.same("none", x.ways(10, 4), 0);
-        noSuch("from no place", NO_PLACE, place -> x.ways(place, 0));
-        noSuch("to no place", NO_PLACE, place -> x.ways(0, place));
-        noSuch("neither", NO_PLACE, place -> x.ways(place, place));
+        edges.same("one", made().ways(0, 13), 1);
+        edges.same("to itself", made().ways(3, 3), 1);
+        edges.same("none", made().ways(10, 4), 0);
+        noSuch("from no place", NO_PLACE, (x, place) -> x.ways(place, 0));
+        noSuch("to no place", NO_PLACE, (x, place) -> x.ways(0, place));
+        noSuch("neither", NO_PLACE, (x, place) -> x.ways(place, place));
         edges.promise(35);
         edges.says("NEAR; NONE: none.");
-        edges.same("near", x.near(0), 2);
-        edges.same("none", x.near(1), NONE);
-        noSuch("person", NO_PERSON, x::near);
+        edges.same("near", made().near(0), 2);
+        edges.same("none", made().near(1), NONE);
+        noSuch("person", NO_PERSON, MarginWays::near);
         edges.promise(36);
         edges.says("GONE.");
         edges.same("gone", Check.told(BASE).gone(0, 5), 4);
-        edges.same("one isn't sent", x.gone(2, 60), 0);
+        edges.same("one isn't sent", made().gone(2, 60), 0);
         edges.says("IllegalArgumentException (behind NoSuchElementException): not 0 to 60.");
-        illegal("days", NO_DAYS, days -> x.gone(0, days));
-        noSuch("person ahead of days", NO_PERSON, who -> x.gone(who, 61));
-        noSuch("person", NO_PERSON, who -> x.gone(who, 0));
+        illegal("days", NO_DAYS, (x, days) -> x.gone(0, days));
+        noSuch("person ahead of days", NO_PERSON, (x, who) -> x.gone(who, 61));
+        noSuch("person", NO_PERSON, (x, who) -> x.gone(who, 0));
     }
 
     /** Days that only might go by, paces that one only might have: all is as it was behind each question. */
     private void questionsChangeNothing() {
         edges.in("==== 3.");
         edges.says("(If only DAYS go by, from now on:)");
-        MarginWays y = Check.told("deed 0 0 2 0;deed 0 0 0 1;stile 0 1;stile 0 3;person 0 0 1 to 1 2;person 1 0 2 to 0 3;person 0 0 0;fades 1;");
-        y.type(10, 4);
-        y.days(1);
-        y.see(0, 0, 0);
         for (int who = 0; who < 3; who++) {
             int p = who;
             for (int w = 0; w < 4; w++) {
                 int what = w;
-                edges.asks("then", y, () -> y.then(p, 20, what));
-                edges.asks("way", y, () -> y.way(10 * (p % 2), 3, what));
-                edges.asks("years", y, () -> y.years(p, 60, what));
-                edges.asks("later", y, () -> y.later(30, what));
-                edges.asks("ahead", y, () -> y.ahead(30, what));
-                edges.asks("quick", y, () -> y.quick(what));
-                edges.asks("look", y, () -> y.look(what));
-                edges.asks("game", y, () -> y.game(p, (p + 1) % 3, what));
-                edges.asks("gather", y, () -> y.gather(what));
-                edges.asks("errands", y, () -> y.errands(what));
-                edges.asks("farthest", y, () -> y.farthest(10, what));
+                edges.asks("then", EdgeOfCalls::asked, y -> y.then(p, 20, what));
+                edges.asks("way", EdgeOfCalls::asked, y -> y.way(10 * (p % 2), 3, what));
+                edges.asks("years", EdgeOfCalls::asked, y -> y.years(p, 60, what));
+                edges.asks("later", EdgeOfCalls::asked, y -> y.later(30, what));
+                edges.asks("ahead", EdgeOfCalls::asked, y -> y.ahead(30, what));
+                edges.asks("quick", EdgeOfCalls::asked, y -> y.quick(what));
+                edges.asks("look", EdgeOfCalls::asked, y -> y.look(what));
+                edges.asks("game", EdgeOfCalls::asked, y -> y.game(p, (p + 1) % 3, what));
+                edges.asks("gather", EdgeOfCalls::asked, y -> y.gather(what));
+                edges.asks("errands", EdgeOfCalls::asked, y -> y.errands(what));
+                edges.asks("farthest", EdgeOfCalls::asked, y -> y.farthest(10, what));
             }
-            edges.asks("comes", y, () -> y.comes(p));
-            edges.asks("meet", y, () -> y.meet(p, (p + 1) % 3));
-            edges.asks("clear", y, () -> y.clear(13));
-            edges.asks("reached", y, () -> y.reached(10, p));
-            edges.asks("errand", y, () -> y.errand(p));
-            edges.asks("candles", y, () -> y.candles(p, 5, 5));
-            edges.asks("ways", y, () -> y.ways(0, 12));
-            edges.asks("near", y, () -> y.near(p));
-            edges.asks("gone", y, () -> y.gone(p, 60));
+            edges.asks("comes", EdgeOfCalls::asked, y -> y.comes(p));
+            edges.asks("meet", EdgeOfCalls::asked, y -> y.meet(p, (p + 1) % 3));
+            edges.asks("clear", EdgeOfCalls::asked, y -> y.clear(13));
+            edges.asks("reached", EdgeOfCalls::asked, y -> y.reached(10, p));
+            edges.asks("errand", EdgeOfCalls::asked, y -> y.errand(p));
+            edges.asks("candles", EdgeOfCalls::asked, y -> y.candles(p, 5, 5));
+            edges.asks("ways", EdgeOfCalls::asked, y -> y.ways(0, 12));
+            edges.asks("near", EdgeOfCalls::asked, y -> y.near(p));
+            edges.asks("gone", EdgeOfCalls::asked, y -> y.gone(p, 60));
+        }
+        MarginWays y = asked();
+        for (int who = 0; who < 3; who++) {
+            y.then(who, 20, 0);
+            y.candles(who, 5, 5);
+            y.years(who, 60, 0);
+            y.quick(0);
+            y.look(0);
+            y.game(0, 1, 0);
         }
         edges.isFalse("no image was made", y.restore());
         edges.same("the acts are as they were", y.undo(), 1);
         edges.same("the acts are as they were", y.undo(), 0);
         edges.same("the ink is as it was", y.ink(10), 0);
         edges.same("the paces are as they were", 100 * y.person(0, 1) + 10 * y.person(1, 1) + y.person(2, 1), 120);
+    }
+
+    private static MarginWays asked() {
+        MarginWays y = Check.told("deed 0 0 2 0;deed 0 0 0 1;stile 0 1;stile 0 3;person 0 0 1 to 1 2;person 1 0 2 to 0 3;person 0 0 0;fades 1;");
+        y.type(10, 4);
+        y.days(1);
+        y.see(0, 0, 0);
+        return y;
     }
 }

@@ -30,7 +30,7 @@ final class EdgeOfChance {
         for (int many = 1; many <= 8; many++) {
             edges.same("see", x.see(0, 0, many), many);
         }
-        edges.refused("the 9th", x, 2, NONE, () -> x.see(0, 0, 0));
+        edges.refused("the 9th", () -> x, 2, NONE, made -> made.see(0, 0, 0));
         x.forget();
         edges.same("20", x.see(0, 1, 20), 1);
         edges.same("behind 20 days: by the paces 1 to 9", x.quick(0), 9);
@@ -38,8 +38,8 @@ final class EdgeOfChance {
         edges.same("now one is there", x.quick(0), 9);
         edges.same("19", x.see(0, 0, 19), 3);
         edges.same("behind 19 days one is there yet", x.quick(0), 9);
-        edges.refused("21", x, 2, NONE, () -> x.see(0, 0, 21));
-        edges.refused("-1", x, 2, NONE, () -> x.see(0, 0, -1));
+        edges.refused("21", () -> Check.told(NEXT_DEED), 2, NONE, made -> made.see(0, 0, 21));
+        edges.refused("-1", () -> Check.told(NEXT_DEED), 2, NONE, made -> made.see(0, 0, -1));
         x.see(0, 1, 19);
         edges.same("not both", x.quick(0), 0);
         MarginWays y = Check.told(NEXT_DEED);
@@ -144,7 +144,8 @@ final class EdgeOfChance {
 
     private void candles() {
         edges.says("CANDLES: on each of so many DAYS (1 to 5) there is none with so many tenths (0 to 10): nobody makes a STEP on it");
-        MarginWays x = Check.told("deed 0 0 0;person 0 0 1 to 0 2;");
+        String text = "deed 0 0 0;person 0 0 1 to 0 2;";
+        MarginWays x = Check.told(text);
         edges.same("1 day", x.candles(0, 1, 3), 0);
         edges.same("2 days", x.candles(0, 2, 3), 49);
         edges.same("3 days", x.candles(0, 3, 3), 784);
@@ -154,10 +155,10 @@ final class EdgeOfChance {
         edges.same("10 tenths", x.candles(0, 5, 10), 0);
         edges.same("1 of 10", Check.told("deed 0 0;person 0 0 1 to 0 1;").candles(0, 1, 9), 1);
         edges.same("1 of 100000", Check.told("deed 0 0 0 0 0 0;person 0 0 1 to 0 5;").candles(0, 5, 9), 1);
-        edges.illegal("0 days", x, () -> x.candles(0, 0, 5));
-        edges.illegal("6 days", x, () -> x.candles(0, 6, 5));
-        edges.illegal("-1 tenths", x, () -> x.candles(0, 1, -1));
-        edges.illegal("11 tenths", x, () -> x.candles(0, 1, 11));
+        edges.illegal("0 days", text, made -> made.candles(0, 0, 5));
+        edges.illegal("6 days", text, made -> made.candles(0, 6, 5));
+        edges.illegal("-1 tenths", text, made -> made.candles(0, 1, -1));
+        edges.illegal("11 tenths", text, made -> made.candles(0, 1, 11));
         edges.says("(all else as ever: who stands there has COME):");
         MarginWays there = Check.told("deed 3;person 0 0 9 to 0 0;");
         edges.same("who stands there, without any candle", there.candles(0, 1, 10), 10);
@@ -245,12 +246,13 @@ final class EdgeOfChance {
 
     private void years() {
         edges.says("YEARS by a seed: n DAYS (0 to 60) from now on: ahead of each a DRAW of 5:");
-        MarginWays x = Check.told("deed 3 0;person 0 0 1 to 0 1;person 0 1 0;");
+        String text = "deed 3 0;person 0 0 1 to 0 1;person 0 1 0;";
+        MarginWays x = Check.told(text);
         for (int what = 0; what < 3; what++) {
             int w = what;
             edges.same("no days", x.years(77, 0, what), what == 2 ? 1 : 0);
-            edges.illegal("61", x, () -> x.years(77, 61, w));
-            edges.illegal("-1", x, () -> x.years(77, -1, w));
+            edges.illegal("61", text, made -> made.years(77, 61, w));
+            edges.illegal("-1", text, made -> made.years(77, -1, w));
         }
         // 1 draws 3 of 5 at first: nothing but the day itself
         edges.same("a day as ever", x.years(1, 1, 0), 1);

@@ -1,4 +1,3 @@
-import java.util.ArrayList;
 import java.util.List;
 
 /** The document's part 2: STEPS, a DAY, ACTS. */
@@ -264,18 +263,18 @@ final class EdgeOfDays {
         edges.same("the latest ones are undone", y.ink(0), 0);
         edges.same("the first one stays", y.ink(1), 7);
         edges.says("DAYS go by (1 to 20);");
-        MarginWays z = Check.told("deed 0 0;deed 0 0;person 0 0 1;");
+        MarginWays z = one();
         edges.same("1", z.days(1), 1);
         edges.same("20", z.days(20), 21);
         edges.same("each is one act", z.count(8), 2);
-        edges.refused("0", z, 1, NONE, () -> z.days(0));
-        edges.refused("21", z, 1, NONE, () -> z.days(21));
+        edges.refused("0", EdgeOfDays::one, 1, NONE, made -> made.days(0));
+        edges.refused("21", EdgeOfDays::one, 1, NONE, made -> made.days(21));
         edges.says("a PLACE is TYPED over with other INK (0 to 9);");
         edges.same("9", z.type(0, 9), 0);
         edges.same("0", z.type(0, 0), 9);
         edges.same("acts", z.count(8), 4);
-        edges.refused("-1", z, 1, NONE, () -> z.type(0, -1));
-        edges.refused("10", z, 1, NONE, () -> z.type(0, 10));
+        edges.refused("-1", EdgeOfDays::one, 1, NONE, made -> made.type(0, -1));
+        edges.refused("10", EdgeOfDays::one, 1, NONE, made -> made.type(0, 10));
         edges.says("a STILE is set, or taken;");
         edges.isTrue("set", z.stile(1, true));
         edges.isTrue("taken", z.stile(1, false));
@@ -293,27 +292,38 @@ final class EdgeOfDays {
         z.let(0, 10);
         edges.same("sent as ever, though one is there now", z.person(0, 2), 10);
         z.type(11, 3);
-        edges.refused("not onto ink", z, 1, NONE, () -> z.let(0, 11));
-        edges.refused("not where one is", z, 1, NONE, () -> z.let(0, 10));
+        edges.refused("not onto ink", () -> z, 1, NONE, made -> made.let(0, 11));
+        edges.refused("not where one is", EdgeOfDays::one, 1, NONE, made -> made.let(0, 0));
+    }
+
+    private static MarginWays one() {
+        return Check.told("deed 0 0;deed 0 0;person 0 0 1;");
+    }
+
+    /** Another object behind the first acts of a row, and no more of them. */
+    private static MarginWays acted(int many) {
+        MarginWays x = Check.told("deed 0 0 3 0;deed 0 0 0 0;stile 0 3;person 0 0 1 to 0 1;person 0 1 2 to 1 3;person 1 3 0;");
+        List<Check.Call> calls = List.of(() -> x.days(3), () -> x.type(2, 0), () -> x.days(20), () -> x.stile(1, true) ? 1 : 0,
+            () -> x.send(0, 13), () -> x.days(1), () -> x.send(1, 2), () -> x.let(2, 0), () -> x.stile(3, false) ? 1 : 0,
+            () -> x.type(13, 9), () -> x.send(2, 11), () -> x.days(7));
+        for (Check.Call call : calls.subList(0, many)) {
+            call.run();
+        }
+        return x;
     }
 
     private void undone() {
         edges.says("They are UNDONE, the last one first.");
-        MarginWays x = Check.told("deed 0 0 3 0;deed 0 0 0 0;stile 0 3;person 0 0 1 to 0 1;person 0 1 2 to 1 3;person 1 3 0;");
-        List<String> states = new ArrayList<>();
-        List<Check.Call> calls = List.of(() -> x.days(3), () -> x.type(2, 0), () -> x.days(20), () -> x.stile(1, true) ? 1 : 0,
-            () -> x.send(0, 13), () -> x.days(1), () -> x.send(1, 2), () -> x.let(2, 0), () -> x.stile(3, false) ? 1 : 0,
-            () -> x.type(13, 9), () -> x.send(2, 11), () -> x.days(7));
-        for (Check.Call call : calls) {
-            states.add(Edges.state(x));
-            call.run();
-            edges.same("an act more", x.count(8), states.size());
+        for (int many = 0; many <= 12; many++) {
+            MarginWays x = acted(12);
+            edges.same("acts", x.count(8), 12);
+            for (int left = 11; left >= many; left--) {
+                edges.same("undo", x.undo(), left);
+            }
+            edges.isTrue("as behind act " + many, Edges.state(x).equals(Edges.state(acted(many))));
         }
-        for (int left = states.size() - 1; left >= 0; left--) {
-            edges.same("undo", x.undo(), left);
-            edges.isTrue("as ahead of act " + left, Edges.state(x).equals(states.get(left)));
-        }
-        edges.same("none is left", x.undo(), NONE);
+        MarginWays none = acted(0);
+        edges.same("none is left", none.undo(), NONE);
         // undone and made anew beyond 40, so that the rows are used again
         MarginWays y = Check.told("deed 0;");
         for (int i = 1; i <= 45; i++) {

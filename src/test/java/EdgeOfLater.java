@@ -45,8 +45,8 @@ final class EdgeOfLater {
         MarginWays z = Check.told(ON_60);
         edges.same("behind 59", z.then(0, 59, 1), 0);
         edges.same("behind 60", z.then(0, 60, 1), 1);
-        edges.illegal("61", z, () -> z.then(0, 61, 0));
-        edges.illegal("-1", z, () -> z.then(0, -1, 0));
+        edges.illegal("61", ON_60, made -> made.then(0, 61, 0));
+        edges.illegal("-1", ON_60, made -> made.then(0, -1, 0));
     }
 
     private void comesAndMeet() {
@@ -75,8 +75,8 @@ final class EdgeOfLater {
         edges.same("now", x.later(0, 0), 1);
         edges.same("behind 59", x.later(59, 0), 1);
         edges.same("behind 60", x.later(60, 0), 2);
-        edges.illegal("61", x, () -> x.later(61, 0));
-        edges.illegal("-1", x, () -> x.later(-1, 0));
+        edges.illegal("61", ON_60, made -> made.later(61, 0));
+        edges.illegal("-1", ON_60, made -> made.later(-1, 0));
         edges.same("all", Check.told("deed 0;" + "person 0 0 0;".repeat(6)).later(0, 0), 6);
         edges.says("that PLACE (10 by the DEED, and PLACE; of like ones the least).");
         edges.same("where one alone is", Check.told("deed 0 0;person 0 1 0;").later(0, 1), 1);
@@ -115,8 +115,8 @@ final class EdgeOfLater {
         edges.same("in none of 0 days", x.ahead(0, 0), 3);
         edges.same("in 59", x.ahead(59, 0), 3);
         edges.same("in 60", x.ahead(60, 0), 0);
-        edges.illegal("61", x, () -> x.ahead(61, 0));
-        edges.illegal("-1", x, () -> x.ahead(-1, 0));
+        edges.illegal("61", ON_60, made -> made.ahead(61, 0));
+        edges.illegal("-1", ON_60, made -> made.ahead(-1, 0));
         edges.same("to be together now is not to meet", Check.told("deed 0;person 0 0 0;person 0 0 0;").ahead(0, 0), 3);
         edges.same("nor if one goes", Check.told("deed 0 0;person 0 0 1 to 0 1;person 0 0 0;").ahead(9, 0), 3);
         MarginWays y = Check.told("deed 0 0;" + "person 0 0 0;".repeat(2) + "person 0 1 0;" + "person 0 0 0;".repeat(3));
@@ -132,12 +132,13 @@ final class EdgeOfLater {
 
     private void thickest() {
         edges.says("THICKEST behind so many DAYS (0 to 60): the PLACE with most INK (10 by the DEED, and PLACE; of like ones the least);");
-        MarginWays x = Check.told("deed 5 1;deed 4 4 6;fades (ink=6 or ink=5)*6*(day=59);");
+        String text = "deed 5 1;deed 4 4 6;fades (ink=6 or ink=5)*6*(day=59);";
+        MarginWays x = Check.told(text);
         edges.same("now", x.ahead(0, 1), 12);
         edges.same("behind 59", x.ahead(59, 1), 12);
         edges.same("behind 60 the least of like ones", x.ahead(60, 1), 10);
-        edges.illegal("61", x, () -> x.ahead(61, 1));
-        edges.illegal("-1", x, () -> x.ahead(-1, 1));
+        edges.illegal("61", text, made -> made.ahead(61, 1));
+        edges.illegal("-1", text, made -> made.ahead(-1, 1));
         edges.same("the least of like ones", Check.told("deed 0 0 2;deed 2;").ahead(0, 1), 2);
         edges.same("the first place of all", Check.told("deed 4 3;").ahead(0, 1), 0);
         edges.same("the last place of all", Check.told("deed 0;deed 0;deed 0;deed 0;deed 0;deed 0 0 0 0 0 0 0 1;").ahead(0, 1), 57);
@@ -153,8 +154,8 @@ final class EdgeOfLater {
         edges.same("in 0", x.gone(0, 0), 0);
         edges.same("in 59", x.gone(0, 59), 0);
         edges.same("in 60", x.gone(0, 60), 1);
-        edges.illegal("61", x, () -> x.gone(0, 61));
-        edges.illegal("-1", x, () -> x.gone(0, -1));
+        edges.illegal("61", ON_60, made -> made.gone(0, 61));
+        edges.illegal("-1", ON_60, made -> made.gone(0, -1));
         MarginWays y = Check.told("deed 0 0 0 0 0 0 0 0;person 0 0 3 to 0 7;person 0 7 2 to 0 3;");
         edges.same("one's own", y.gone(0, 1), 3);
         edges.same("all days together", y.gone(0, 2), 6);

@@ -4,6 +4,8 @@ final class EdgeOfState {
     private static final String BASE = "deed 0 0 0 3 0;deed 0 2 0 0;deed 0 0;stile 0 2;stile 1 0;"
         + "person 0 0 2 to 1 3;person 1 0 1 to 0 4;person 1 3 3;";
 
+    private static final String EIGHT = "deed 0 0 0 0 0 0 0 0;";
+
     private final Edges edges;
 
     EdgeOfState(Edges edges) {
@@ -12,6 +14,7 @@ final class EdgeOfState {
 
     void all() {
         constants();
+        calls();
         newObject();
         feed();
         cellar();
@@ -38,6 +41,33 @@ final class EdgeOfState {
         edges.same("NONE", MarginWays.NONE, -1);
     }
 
+    private void calls() {
+        edges.in("# MarginWays");
+        edges.says("An object is used for at most 512 calls after it has been made; what later calls answer is free.");
+        MarginWays x = new MarginWays();
+        Check.cellar(x, "deed 0;");
+        for (int i = 1; i <= 509; i++) {
+            x.type(0, i % 10);
+        }
+        edges.same("the 512th call", x.ink(0), 9);
+        MarginWays y = new MarginWays();
+        for (int i = 1; i <= 511; i++) {
+            y.days(0);
+        }
+        edges.same("the 512th call", y.count(12), 511);
+        MarginWays z = new MarginWays();
+        for (int i = 1; i <= 511; i++) {
+            z.feed(0, 0, 0, 0, 0);
+        }
+        edges.same("the 512th call", z.feed(0, 0, 0, 0, 0), NONE);
+        MarginWays texts = new MarginWays();
+        for (int i = 1; i <= 255; i++) {
+            Check.cellar(texts, i % 2 == 0 ? "deed 0;" : "deed");
+        }
+        edges.same("the 511th call", texts.fault(), 4);
+        edges.same("the 512th call", texts.count(11), 128);
+    }
+
     private void newObject() {
         edges.promise(1);
         edges.says("No DEEDS, nobody.");
@@ -46,9 +76,9 @@ final class EdgeOfState {
             edges.same("count(" + what + ")", x.count(what), 0);
         }
         edges.same("no fault", x.fault(), NONE);
-        edges.noSuch("no deed", x, () -> x.deed(0, 0));
-        edges.noSuch("no person", x, () -> x.person(0, 0));
-        edges.noSuch("no place", x, () -> x.ink(0));
+        edges.noSuch("no deed", MarginWays::new, made -> made.deed(0, 0));
+        edges.noSuch("no person", MarginWays::new, made -> made.person(0, 0));
+        edges.noSuch("no place", MarginWays::new, made -> made.ink(0));
         edges.same("no act", x.undo(), NONE);
         edges.isFalse("no image", x.restore());
         edges.same("nobody anywhere", x.later(0, 0), 0);
@@ -109,6 +139,9 @@ final class EdgeOfState {
         edges.same("no deeds", x.count(0), 0);
         edges.same("the tape is empty then", x.count(10), 0);
         edges.same("of an empty tape", x.cellar(0), 0);
+        for (int what = 0; what < 14; what++) {
+            edges.same("as a new object: count(" + what + ")", x.count(what), 0);
+        }
         edges.same("all its bytes", Check.cellar(x, "deed 0;deed 0;      "), 0);
         edges.same("two deeds", x.count(0), 2);
         edges.says("all anew: 0, or the FAULT (all stays).");
@@ -170,45 +203,50 @@ final class EdgeOfState {
         Check.cellar(less, "deed 0;deed 0 0;");
         edges.same("no ink is left", less.count(5), 0);
         edges.same("no place is left", less.deed(0, 0), 1);
-        edges.noSuch("no place is left", less, () -> less.ink(1));
+        edges.noSuch("no place is left", () -> less, made -> made.ink(1));
         oneTextBehindAnother();
         edges.says("IllegalArgumentException: the tape has not so many, n below 0 (nothing changes).");
-        MarginWays x = base();
-        Check.cellar(x, "deed 10;");
-        Check.feed(x, "deed 1;deed 2;");
-        edges.illegal("one more than it has", x, () -> x.cellar(21));
-        edges.illegal("-1", x, () -> x.cellar(-1));
-        edges.illegal("the least", x, () -> x.cellar(Integer.MIN_VALUE));
-        edges.illegal("the greatest", x, () -> x.cellar(Integer.MAX_VALUE));
+        for (int n : new int[] {21, -1, 700, 701, Integer.MIN_VALUE, Integer.MAX_VALUE}) {
+            edges.illegal("cellar(" + n + ") of 20 bytes", EdgeOfState::withTape, made -> made.cellar(n));
+        }
+        MarginWays x = withTape();
+        edges.illegal("21 of 20 bytes", () -> x, made -> made.cellar(21));
         edges.same("fault() stays", x.fault(), 5);
         edges.same("the tape stays", x.cellar(20), 0);
         edges.same("as it was", x.ink(10), 2);
-        edges.illegal("an empty tape", x, () -> x.cellar(1));
+        edges.illegal("an empty tape", MarginWays::new, made -> made.cellar(1));
         MarginWays full = new MarginWays();
         for (int i = 0; i < 35; i++) {
             full.feed(0x20202020, 0x20202020, 0x20202020, 0x20202020, 0x20202020);
         }
-        edges.illegal("701", full, () -> full.cellar(701));
+        edges.illegal("701", () -> full, made -> made.cellar(701));
         edges.same("700", full.cellar(700), 0);
     }
 
-    /** Of all texts ahead nothing is left: an object with many is as one with the last alone. */
+    private static MarginWays withTape() {
+        MarginWays x = base();
+        Check.cellar(x, "deed 10;");
+        Check.feed(x, "deed 1;deed 2;");
+        return x;
+    }
+
+    /** Of all texts ahead nothing is left: an object with some is as one with the last alone. */
     private void oneTextBehindAnother() {
         String[] texts = {BASE + "goes 0;fades 0;", "deed 0;", "x", "", "deed 9 9 9 9 9 9 9 9;".repeat(6) + "person 5 7 9 to 0 0;".repeat(6),
             "deed 0 0;person 0 0 1 to 0 1;", "deed 0 0 0;goes 0;fades 0;x", "deed 0 0 5;person 0 0 1 to 0 1;",
             "deed 0 0 0 0 0 0 0 0;".repeat(6) + "stile 0 0;stile 4 7;", "deed 0;deed 0 0;person 1 1 3 to 0 0;person 1 0 3 to 1 0;",
             "deed 0 0 0;" + "person 0 0 1 to 0 2;".repeat(6) + "goes day=7;", "deed 0 0;person 0 0 0 to 0 1;person 0 1 1 to 0 0;", "deed",
-            "deed 0;deed 0;", "deed 4 4;deed 4 4;stile 0 1;person 0 1 1 to 1 1;fades 2;", "deed 1;"};
-        MarginWays x = new MarginWays();
-        String before = "";
-        for (String text : texts) {
-            if (Check.cellar(x, text) == 0) {
-                MarginWays alone = Check.told(text);
-                edges.isTrue("as one with this text alone: " + text, answers(x).equals(answers(alone)));
-            } else {
-                edges.isTrue("as ahead of: " + text, answers(x).equals(before));
+            "deed 0;deed 0;", "deed 4 4;deed 4 4;stile 0 1;person 0 1 1 to 1 1;fades 2;", "deed 9;", "deed 0;",
+            ""};
+        for (int last = 0; last < texts.length; last++) {
+            MarginWays some = new MarginWays();
+            MarginWays alone = new MarginWays();
+            for (int i = Math.max(0, last - 5); i <= last; i++) {
+                if (Check.cellar(some, texts[i]) == 0) {
+                    alone = Check.told(texts[i]);
+                }
             }
-            before = answers(x);
+            edges.isTrue("as one with the last text without a fault alone: " + texts[last], answers(some).equals(answers(alone)));
         }
     }
 
@@ -255,7 +293,7 @@ final class EdgeOfState {
         edges.same("the day", x.count(2), 21);
         edges.says("NONE (STATUS 1): not 1 to 20, it would be above 9999.");
         for (int many : new int[] {0, -1, 21, 9999, Integer.MIN_VALUE, Integer.MAX_VALUE}) {
-            edges.refused("days(" + many + ")", x, 1, NONE, () -> x.days(many));
+            edges.refused("days(" + many + ")", EdgeOfState::base, 1, NONE, made -> made.days(many));
         }
         MarginWays y = Check.told("deed 0 0;person 0 0 1 to 0 1;goes day=9999+59;");
         for (int i = 0; i < 499; i++) {
@@ -286,9 +324,9 @@ final class EdgeOfState {
         edges.same("one stays there", x.person(0, 0), 0);
         edges.says("NONE (STATUS 1): not 0 to 9.");
         for (int ink : new int[] {-1, 10, Integer.MIN_VALUE, Integer.MAX_VALUE}) {
-            edges.refused("type(3, " + ink + ")", x, 1, NONE, () -> x.type(3, ink));
+            edges.refused("type(3, " + ink + ")", EdgeOfState::base, 1, NONE, made -> made.type(3, ink));
         }
-        edges.noSuch("a place that isn't there comes first", x, () -> x.type(5, 10));
+        edges.noSuch("a place that isn't there comes first", EdgeOfState::base, made -> made.type(5, 10));
     }
 
     private void stile() {
@@ -303,7 +341,7 @@ final class EdgeOfState {
         edges.isTrue("one of the text is taken", x.stile(2, false));
         edges.same("stiles", x.count(4), 1);
         edges.isTrue("where there is ink", x.stile(3, true));
-        MarginWays full = Check.told("deed 0 0 0 0 0 0 0 0;".repeat(6));
+        MarginWays full = Check.told(EIGHT.repeat(6));
         for (int deed = 0; deed < 5; deed++) {
             for (int place = 0; place < 8; place++) {
                 edges.isTrue("set", full.stile(10 * deed + place, true));
@@ -313,16 +351,15 @@ final class EdgeOfState {
         edges.same("40 in all", full.count(4), 40);
         edges.same("40 acts", full.count(8), 40);
         edges.says("False (STATUS 1): it is so already, the next DEED hasn't that PLACE, there is no next one.");
-        MarginWays y = base();
-        edges.refused("set already", y, 1, 0, () -> y.stile(2, true) ? 1 : 0);
-        edges.refused("not there already", y, 1, 0, () -> y.stile(0, false) ? 1 : 0);
-        edges.refused("the next one hasn't that place", y, 1, 0, () -> y.stile(4, true) ? 1 : 0);
-        edges.refused("the next one hasn't that place", y, 1, 0, () -> y.stile(4, false) ? 1 : 0);
-        edges.refused("the next one hasn't that place", y, 1, 0, () -> y.stile(12, true) ? 1 : 0);
-        edges.refused("no next one", y, 1, 0, () -> y.stile(20, true) ? 1 : 0);
-        edges.refused("no next one", y, 1, 0, () -> y.stile(21, false) ? 1 : 0);
-        edges.refused("no next one of the sixth", full, 1, 0, () -> full.stile(57, true) ? 1 : 0);
-        edges.refused("no next one of the sixth", full, 1, 0, () -> full.stile(50, false) ? 1 : 0);
+        edges.refused("set already", EdgeOfState::base, 1, 0, made -> made.stile(2, true) ? 1 : 0);
+        edges.refused("not there already", EdgeOfState::base, 1, 0, made -> made.stile(0, false) ? 1 : 0);
+        edges.refused("the next one hasn't that place", EdgeOfState::base, 1, 0, made -> made.stile(4, true) ? 1 : 0);
+        edges.refused("the next one hasn't that place", EdgeOfState::base, 1, 0, made -> made.stile(4, false) ? 1 : 0);
+        edges.refused("the next one hasn't that place", EdgeOfState::base, 1, 0, made -> made.stile(12, true) ? 1 : 0);
+        edges.refused("no next one", EdgeOfState::base, 1, 0, made -> made.stile(20, true) ? 1 : 0);
+        edges.refused("no next one", EdgeOfState::base, 1, 0, made -> made.stile(21, false) ? 1 : 0);
+        edges.refused("no next one of the sixth", () -> Check.told(EIGHT.repeat(6)), 1, 0, made -> made.stile(57, true) ? 1 : 0);
+        edges.refused("no next one of the sixth", () -> Check.told(EIGHT.repeat(6)), 1, 0, made -> made.stile(50, false) ? 1 : 0);
     }
 
     private void send() {
@@ -339,11 +376,12 @@ final class EdgeOfState {
         edges.same("to ink, too", x.send(0, 11), 0);
         edges.same("who is sent", x.count(6), 3);
         edges.says("-2 (STATUS 1): it is so already.");
-        edges.refused("to the same place", x, 1, -2, () -> x.send(0, 11));
-        edges.refused("nowhere", x, 1, -2, () -> x.send(2, NONE));
-        edges.noSuch("a place that isn't there", x, () -> x.send(0, -2));
-        edges.noSuch("a place that isn't there", x, () -> x.send(0, 5));
-        edges.noSuch("nobody, nowhere", x, () -> x.send(3, NONE));
+        edges.refused("to the same place", EdgeOfState::base, 1, -2, made -> made.send(0, 13));
+        edges.refused("to where one was sent by send()", () -> x, 1, -2, made -> made.send(0, 11));
+        edges.refused("nowhere", EdgeOfState::base, 1, -2, made -> made.send(2, NONE));
+        edges.noSuch("a place that isn't there", EdgeOfState::base, made -> made.send(0, -2));
+        edges.noSuch("a place that isn't there", EdgeOfState::base, made -> made.send(0, 5));
+        edges.noSuch("nobody, nowhere", EdgeOfState::base, made -> made.send(3, NONE));
     }
 
     private void let() {
@@ -357,12 +395,12 @@ final class EdgeOfState {
         x.type(13, 5);
         edges.same("off ink", x.let(0, 4), 13);
         edges.says("NONE (STATUS 1): it isn't white, one is there.");
-        edges.refused("it isn't white", x, 1, NONE, () -> x.let(0, 3));
-        edges.refused("it isn't white, another one is there", x, 1, NONE, () -> x.let(0, 13));
-        edges.refused("one is there", x, 1, NONE, () -> x.let(0, 4));
-        edges.refused("one is there, and it isn't white", x, 1, NONE, () -> x.let(2, 13));
-        edges.noSuch("nowhere", x, () -> x.let(0, NONE));
-        edges.noSuch("nobody", x, () -> x.let(3, 0));
+        edges.refused("it isn't white", EdgeOfState::base, 1, NONE, made -> made.let(0, 3));
+        edges.refused("one is there", EdgeOfState::base, 1, NONE, made -> made.let(0, 0));
+        edges.refused("it isn't white, another one is there", () -> x, 1, NONE, made -> made.let(0, 13));
+        edges.refused("one is there, and it isn't white", () -> x, 1, NONE, made -> made.let(2, 13));
+        edges.noSuch("nowhere", EdgeOfState::base, made -> made.let(0, NONE));
+        edges.noSuch("nobody", EdgeOfState::base, made -> made.let(3, 0));
     }
 
     private void undo() {
@@ -388,6 +426,14 @@ final class EdgeOfState {
         edges.isTrue("nothing changes, nothing is refused", before.equals(Edges.state(x)));
     }
 
+    private static MarginWays with8() {
+        MarginWays x = base();
+        for (int i = 0; i < 8; i++) {
+            x.see(0, 0, i);
+        }
+        return x;
+    }
+
     private void see() {
         edges.promise(26);
         edges.says("SEEN: how much is.");
@@ -398,21 +444,21 @@ final class EdgeOfState {
         edges.same("seen", x.count(9), 3);
         edges.says("NONE (STATUS 2): there are 8, not 0 to 20.");
         for (int days : new int[] {-1, 21, Integer.MIN_VALUE, Integer.MAX_VALUE}) {
-            edges.refused("see(0, 0, " + days + ")", x, 2, NONE, () -> x.see(0, 0, days));
+            edges.refused("see(0, 0, " + days + ")", EdgeOfState::base, 2, NONE, made -> made.see(0, 0, days));
         }
         for (int i = 4; i <= 8; i++) {
             edges.same("see", x.see(1, 1, i), i);
         }
-        edges.refused("there are 8", x, 2, NONE, () -> x.see(0, 0, 0));
-        edges.refused("both", x, 2, NONE, () -> x.see(0, 0, 21));
+        edges.refused("there are 8", EdgeOfState::with8, 2, NONE, made -> made.see(0, 0, 0));
+        edges.refused("both", EdgeOfState::with8, 2, NONE, made -> made.see(0, 0, 21));
         edges.says("NoSuchElementException (ahead): no such PERSON, DEED.");
-        edges.noSuch("nobody, though there are 8", x, () -> x.see(3, 0, 0));
-        edges.noSuch("no deed, though there are 8", x, () -> x.see(0, 3, 0));
+        edges.noSuch("nobody, though there are 8", EdgeOfState::with8, made -> made.see(3, 0, 0));
+        edges.noSuch("no deed, though there are 8", EdgeOfState::with8, made -> made.see(0, 3, 0));
         x.forget();
-        edges.noSuch("nobody", x, () -> x.see(3, 0, 0));
-        edges.noSuch("nobody", x, () -> x.see(-1, 0, 21));
-        edges.noSuch("no deed", x, () -> x.see(0, 3, -1));
-        edges.noSuch("no deed", x, () -> x.see(0, -1, 0));
+        edges.noSuch("nobody", EdgeOfState::base, made -> made.see(3, 0, 0));
+        edges.noSuch("nobody", EdgeOfState::base, made -> made.see(-1, 0, 21));
+        edges.noSuch("no deed", EdgeOfState::base, made -> made.see(0, 3, -1));
+        edges.noSuch("no deed", EdgeOfState::base, made -> made.see(0, -1, 0));
         edges.promise(27);
         edges.says("All that is SEEN is forgotten.");
         x.see(0, 2, 0);
@@ -439,7 +485,6 @@ final class EdgeOfState {
         x.see(0, 0, 5);
         String before = Edges.state(x);
         x.image();
-        edges.isTrue("nothing changes", before.equals(Edges.state(x)));
         x.days(9);
         x.type(4, 0);
         x.type(0, 8);
@@ -448,18 +493,18 @@ final class EdgeOfState {
         x.send(2, 0);
         x.let(2, 10);
         x.see(1, 1, 3);
-        for (int i = 0; i < 3; i++) {
+        for (int i = 0; i < 2; i++) {
             edges.isTrue("restore", x.restore());
             edges.isTrue("all is as it was", before.equals(Edges.state(x)));
-            for (int left = 4 - i; left >= 0; left--) {
+            for (int left = 4; left >= 0; left--) {
                 edges.same("its acts", x.undo(), left);
-                if (left == 4 - i) {
-                    x.image();
-                    before = Edges.state(x);
-                }
             }
             x.forget();
         }
+        edges.asks("nothing but the image", EdgeOfState::with8, made -> {
+            made.image();
+            return 0;
+        });
         // what is SEEN, as it was: who, where, when
         MarginWays seen = Check.told("deed 0;deed 0;stile 0 0;person 0 0 1 to 1 0;person 0 0 0;");
         seen.see(0, 0, 0);

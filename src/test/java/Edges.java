@@ -71,24 +71,40 @@ final class Edges {
         check.isFalse(label(what), got);
     }
 
+    /** Makes an object anew for each call that is looked at, as one is used for 512 calls at most. */
+    interface Maker {
+        MarginWays make();
+    }
+
+    interface On {
+        long run(MarginWays x);
+    }
+
     /** A call that throws changes nothing. */
-    void noSuch(String what, MarginWays x, Check.Call call) {
+    void noSuch(String what, Maker maker, On call) {
+        MarginWays x = maker.make();
         String before = state(x);
-        check.noSuch(label(what), call);
+        check.noSuch(label(what), () -> call.run(x));
         check.isTrue(label(what + " changes nothing"), before.equals(state(x)));
     }
 
-    void illegal(String what, MarginWays x, Check.Call call) {
+    void illegal(String what, Maker maker, On call) {
+        MarginWays x = maker.make();
         String before = state(x);
-        check.illegal(label(what), call);
+        check.illegal(label(what), () -> call.run(x));
         check.isTrue(label(what + " changes nothing"), before.equals(state(x)));
+    }
+
+    void illegal(String what, String text, On call) {
+        illegal(what, () -> Check.told(text), call);
     }
 
     /** An act or a sighting that is refused: only its STATUS changes, by one. */
-    void refused(String what, MarginWays x, int status, long due, Check.Call call) {
+    void refused(String what, Maker maker, int status, long due, On call) {
+        MarginWays x = maker.make();
         String before = state(x);
         int many = x.count(11 + status);
-        check.same(label(what), call.run(), due);
+        check.same(label(what), call.run(x), due);
         check.same(label(what + " counts"), x.count(11 + status), many + 1);
         String again = state(x).replace(statusOf(status, many + 1), statusOf(status, many));
         check.same(label(what + " changes nothing else"), again.equals(before) ? 1 : 0, 1);
@@ -99,9 +115,10 @@ final class Edges {
     }
 
     /** A call that only asks changes nothing, not even a STATUS. */
-    void asks(String what, MarginWays x, Check.Call call) {
+    void asks(String what, Maker maker, On call) {
+        MarginWays x = maker.make();
         String before = state(x);
-        Check.thrownBy(call);
+        Check.thrownBy(() -> call.run(x));
         check.isTrue(label(what + " changes nothing"), before.equals(state(x)));
     }
 

@@ -31,6 +31,8 @@ public final class ExtremeTest {
         int many = Math.min(3, method.getParameterCount());
         int all = (int) Math.pow(NUMBERS.length, many);
         for (int row = 0; row < all; row++) {
+            // what is called behind an object's 512th call is free
+            x = row % 400 == 399 ? Check.told(text) : x;
             int left = row;
             Object[] arguments = new Object[method.getParameterCount()];
             for (int i = 0; i < arguments.length; i++) {

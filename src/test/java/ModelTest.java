@@ -6,10 +6,13 @@ public final class ModelTest {
     private static final String[] GOES = {"pace", "steps", "far", "with", "met", "day"};
     private static final String[] FADES = {"ink", "place", "deed", "with", "day"};
 
+    private static final int MOST_CALLS = 512;
+
     private final Random random;
     private final MarginWays real = new MarginWays();
     private final Model model = new Model();
     private final int run;
+    private int calls = 0;
 
     private ModelTest(int run) {
         this.run = run;
@@ -17,7 +20,7 @@ public final class ModelTest {
     }
 
     public static void main(String[] args) {
-        int runs = args.length > 0 ? Integer.parseInt(args[0]) : 400;
+        int runs = args.length > 0 ? Integer.parseInt(args[0]) : 500;
         for (int run = 0; run < runs; run++) {
             new ModelTest(run).play();
         }
@@ -118,8 +121,7 @@ public final class ModelTest {
             for (int i = 0; i < 20; i++) {
                 n[i / 4] = n[i / 4] << 8 | (from + i < text.length() ? text.charAt(from + i) : ' ');
             }
-            int due = model.feed(n);
-            CHECK.same("run " + run + " feed", real.feed(n[0], n[1], n[2], n[3], n[4]), due);
+            same("feed", () -> real.feed(n[0], n[1], n[2], n[3], n[4]), () -> model.feed(n));
         }
         int many = chance(9) ? text.length() : draw(760) - 20;
         same("cellar(" + many + ") of: " + text, () -> real.cellar(many), () -> model.cellar(many));
@@ -132,8 +134,17 @@ public final class ModelTest {
 
     // ---- calls
 
+    /** What is called behind an object's 512th call is free: so neither is called then. */
     private void same(String what, Check.Call call, Check.Call dueCall) {
-        CHECK.same("run " + run + ": " + what, answer(call), answer(dueCall));
+        if (calls < MOST_CALLS) {
+            calls++;
+            CHECK.same("run " + run + ": " + what, answer(call), answer(dueCall));
+        }
+    }
+
+    private static long nothing(Runnable call) {
+        call.run();
+        return 0;
     }
 
     private static long answer(Check.Call call) {
@@ -286,8 +297,7 @@ public final class ModelTest {
         switch (which) {
             case 23 -> {
                 if (chance(4)) {
-                    real.forget();
-                    model.forget();
+                    same("forget()", () -> nothing(real::forget), () -> nothing(model::forget));
                 }
                 same("count(9)", () -> real.count(9), () -> model.count(9));
             }
@@ -324,12 +334,13 @@ public final class ModelTest {
             case 32 -> same("gone(" + p + ", " + days + ")", () -> real.gone(p, days), () -> model.gone(p, days));
             default -> {
                 if (chance(4)) {
-                    real.image();
-                    model.image();
+                    same("image()", () -> nothing(real::image), () -> nothing(model::image));
                 } else {
                     same("restore()", () -> real.restore() ? 1 : 0, () -> model.restore() ? 1 : 0);
                 }
-                wholeState();
+                if (chance(3)) {
+                    wholeState();
+                }
             }
         }
     }
