@@ -205,6 +205,7 @@ final class EdgeOfState {
         edges.same("no place is left", less.deed(0, 0), 1);
         edges.noSuch("no place is left", () -> less, made -> made.ink(1));
         oneTextBehindAnother();
+        askedAheadOfAnother();
         edges.says("IllegalArgumentException: the tape has not so many, n below 0 (nothing changes).");
         for (int n : new int[] {21, -1, 700, 701, Integer.MIN_VALUE, Integer.MAX_VALUE}) {
             edges.illegal("cellar(" + n + ") of 20 bytes", EdgeOfState::withTape, made -> made.cellar(n));
@@ -248,6 +249,18 @@ final class EdgeOfState {
             }
             edges.isTrue("as one with the last text without a fault alone: " + texts[last], answers(some).equals(answers(alone)));
         }
+    }
+
+    /** Nor is anything left of what was asked about the text ahead. */
+    private void askedAheadOfAnother() {
+        MarginWays x = Check.told("deed 0;" + "person 0 0 0 to 0 0;".repeat(6));
+        edges.same("all six", x.errands(0), 6);
+        edges.same("one's own", x.errand(5), 5);
+        Check.cellar(x, "deed 0 0;person 0 0 0 to 0 1;person 0 0 0;person 0 0 0;");
+        edges.same("one of three", x.errands(0), 1);
+        edges.same("one step", x.errands(1), 1);
+        edges.same("the first one's", x.errand(0), 0);
+        edges.same("none", x.errand(2), NONE);
     }
 
     private static String answers(MarginWays x) {
