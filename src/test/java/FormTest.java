@@ -17,6 +17,9 @@ public final class FormTest {
     private static final Path SOURCE = Path.of("src/main/java/MarginWays.java");
     private static final Path DOCUMENT = Path.of("../shared/DOC.md");
 
+    /** Rule 5; arrays may be constants, too, but the class has none. */
+    private static final Set<Class<?>> CONSTANTS = Set.of(int.class, long.class, boolean.class, char.class, String.class);
+
     private FormTest() {
     }
 
@@ -54,8 +57,17 @@ public final class FormTest {
         }
         CHECK.same("methods of the face", due.size(), 37);
         CHECK.isTrue("the face is as the document's: " + due + " / " + got, due.equals(got));
+        Set<String> fields = new TreeSet<>();
+        for (Field field : MarginWays.class.getDeclaredFields()) {
+            if (!Modifier.isPrivate(field.getModifiers())) {
+                fields.add(Modifier.toString(field.getModifiers()) + " " + field.getType() + " " + field.getName());
+            }
+        }
+        CHECK.isTrue("the constants are as the document's: " + fields, fields.equals(Set.of("public static final int NONE")));
         Constructor<?>[] constructors = MarginWays.class.getDeclaredConstructors();
         CHECK.same("constructors", constructors.length, 1);
+        CHECK.isTrue("it is public", Modifier.isPublic(constructors[0].getModifiers()));
+        CHECK.same("it takes nothing", constructors[0].getParameterCount(), 0);
         CHECK.isTrue("public and final", Modifier.isPublic(MarginWays.class.getModifiers())
             && Modifier.isFinal(MarginWays.class.getModifiers()));
     }
@@ -88,6 +100,7 @@ public final class FormTest {
         for (Field field : type.getDeclaredFields()) {
             if (Modifier.isStatic(field.getModifiers())) {
                 CHECK.isTrue("static is final: " + field, Modifier.isFinal(field.getModifiers()));
+                CHECK.isTrue("static is a constant: " + field, CONSTANTS.contains(field.getType()));
             } else {
                 fields++;
             }
@@ -95,6 +108,7 @@ public final class FormTest {
         CHECK.isTrue("at most twenty fields: " + type, fields <= 20);
         if (type != MarginWays.class) {
             CHECK.isTrue("static: " + type, Modifier.isStatic(type.getModifiers()));
+            CHECK.isFalse("public or protected: " + type, Modifier.isPublic(type.getModifiers()) || Modifier.isProtected(type.getModifiers()));
         }
     }
 
